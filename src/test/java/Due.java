@@ -14,6 +14,20 @@ final class Due {
         }
     }
 
+    static void isTrue(String what, boolean is) {
+        is(what, is ? 1 : 0, 1);
+    }
+
+    /** One test by its name: it is told that it ran, how many answers it looked at, how it went. */
+    static void test(String name, Runnable test) {
+        int askedBefore = asked;
+        int wrongBefore = wrong;
+        test.run();
+        int looked = asked - askedBefore;
+        isTrue(name + " looks at an answer", looked > 0);
+        System.out.println("  " + (wrong == wrongBefore ? "ok" : "NOT AS DUE") + " " + name + ": " + looked + " answers");
+    }
+
     static void type(MillSails mill, String text) {
         for (int i = 0; i < text.length(); i++) {
             mill.type(text.charAt(i));
