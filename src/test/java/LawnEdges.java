@@ -390,12 +390,26 @@ final class LawnEdges {
             for (String text : texts) {
                 Edges.same("read anew: " + text, withoutTrace(Shown.of(() -> readBehindAll(text))), withoutTrace(Shown.of(() -> Due.told(text))));
                 Due.is("the trace", readBehindAll(text).trace(), 1011);
+                Edges.same("read behind others and faults: " + text, Shown.of(() -> readBehindMany(text)), Shown.of(() -> Due.told(text)));
             }
         });
     }
 
     private static MillSails readBehindAll(String text) {
         MillSails mill = Edges.busyWithoutText();
+        Due.type(mill, text);
+        mill.lawn();
+        return mill;
+    }
+
+    private static MillSails readBehindMany(String text) {
+        MillSails mill = new MillSails();
+        String[] others = {"w4;rxpmh;rppmm;rxxxx;t", "w4;rxpmh;rppmm;rxxxx;s6 5;n4;", "w4;rmxpf;rmhpx;t3 0;s5 4;n1;", "w4;rmxph;rmxpxx", "s2 1;n3;n"};
+        for (String other : others) {
+            Due.type(mill, other);
+            mill.lawn();
+            mill.clear();
+        }
         Due.type(mill, text);
         mill.lawn();
         return mill;

@@ -156,6 +156,10 @@ final class RestEdges {
             Due.is("shut in: seven each", mill.best(), 3 + 7 + 7);
             mill.boards(0, 0, 0);
             Due.is("one way is left", mill.best(), 3 + 2 + 2);
+            MillSails atOnce = Due.told("w3;rffh;t0 0;n2;");
+            atOnce.strikes(1, 2);
+            atOnce.boards(1, 0, 1);
+            Due.is("who is done stays so, the other is shut in", atOnce.best(), 1 + 7);
             Due.is("over: what they needed", Edges.over().best(), 1 + 2);
             Due.is("a new object", new MillSails().best(), 14);
             Edges.changesNothing("best", Edges::busy, MillSails::best);
@@ -179,6 +183,9 @@ final class RestEdges {
             board("w3;rhff;rfxx;rpff;t2 2;", 0, 12);
             board("w2;rfx;rfh;t0 0;", 0, Edges.NONE);
             board("w3;rfxh;rfff;t0 0;", 0, 1);
+            board("w3;rhxf;t2 0;", 0, 1);
+            board("w2;rfp;rxp;rhp;t0 0;", 0, 10);
+            board("w2;rhp;rxp;rfp;t0 2;", 0, 10);
             board("w7;" + "rppppppf;".repeat(5) + "rpppppxx;rpppppxh;t6 0;", 0, 56);
         });
         Edges.sentence(21, "HELP (what = 0), HARM (1); NONE. BAD; STATE: nobody is on.", () -> {
@@ -203,6 +210,10 @@ final class RestEdges {
             board("w3;rfff;rxxf;rxxh;t0 0;", 1, 1);
             board("w4;rfffx;rfxfh;rfffx;t0 0;", 1, 12);
             board("w2;rfx;rfx;rhx;t0 0;", 1, 10);
+            board("w2;rhx;rfx;rfx;t0 2;", 1, 10);
+            board("w3;rhff;t2 0;", 1, 1);
+            board("w7;" + "rxxxxxxf;".repeat(6) + "rxxxxxxh;t6 0;", 1, 16);
+            board("w7;rhffffff;t6 0;", 1, 1);
             MillSails ball = Due.told("w5;rfffhf;t1 0;");
             ball.strikes(3, 1);
             Due.is("the TEE between, which can not be", ball.board(1), 2);

@@ -157,6 +157,12 @@ final class StrokeEdges {
             for (int tick = 0; tick < 6; tick++) {
                 wayHome("in tick " + tick, waited(SAILS, tick), first[tick]);
             }
+            // The ticks of the first stroke count for the second: a mill between corner and hole.
+            int[] second = {5, 3, 24};
+            for (int open = 0; open < 3; open++) {
+                MillSails mill = Due.told("w3;rfff;rxxm;rxxh;t0 0;s3 " + open + ";");
+                wayHome("the corner, OPEN " + open, mill, 12, second[open]);
+            }
             // Right by six is the only stroke that can be in, and comes to the mill in its fifth tick.
             for (int turn = 2; turn <= 6; turn++) {
                 for (int open = 0; open < turn; open++) {
@@ -229,9 +235,12 @@ final class StrokeEdges {
             MillSails near = Due.told("w2;rfh;t0 0;");
             MillSails five = Due.told("w7;rfffffhf;t0 0;");
             MillSails six = Due.told("w7;rffffffh;t0 0;");
+            MillSails two = Due.told("w4;rffhf;t0 0;");
+            int[][] harderIs = {{0, 1}, {1, 10}, {1, 5}, {3, 10}, {2, 5}, {1, 2}};
             int[][] lessIsNot = {{1, 1}, {9, 10}, {4, 5}, {7, 10}, {3, 5}, {1, 2}};
             for (int x = 0; x <= 5; x++) {
                 fraction(near, 1, x, 1, 1);
+                fraction(two, 1, x, harderIs[x][0], harderIs[x][1]);
                 fraction(five, 6, x, 1, 1);
                 fraction(five, 5, x, lessIsNot[x][0], lessIsNot[x][1]);
                 fraction(six, 6, x, lessIsNot[x][0], lessIsNot[x][1]);
